@@ -55,9 +55,8 @@ public final class ResidueRows {
         needNumbers(1);
         readResidues(a, left);
         readResidues(b, right);
-        int leftDegree = degree(left);
-        int rightDegree = degree(right);
-        if (leftDegree >= 0 && rightDegree >= 0 && leftDegree + rightDegree > GREATEST_DEGREE) {
+        // The degree -1 of a polynomial 0 keeps the sum low enough, as its product's degree is.
+        if (degree(left) + degree(right) > GREATEST_DEGREE) {
             throw new IllegalArgumentException("the product's degree is above 31");
         }
         residues.product(left, right, made);
@@ -296,13 +295,13 @@ public final class ResidueRows {
 
         /** The product must have a degree below SIZE. */
         void product(int[] a, int[] b, int[] to) {
-            multiplyWide(a, b);
+            multiplyWide(a, b, degree(b));
             narrowRest(SIZE, prime, to);
         }
 
         void productRest(int[] a, int[] b, int[] monic, int[] to) {
             int degree = degree(monic);
-            multiplyWide(a, b);
+            multiplyWide(a, b, degree(b));
             divideWide(monic, degree, prime);
             narrowRest(degree, prime, to);
         }
@@ -372,13 +371,12 @@ public final class ResidueRows {
             }
         }
 
-        private void multiplyWide(int[] a, int[] b) {
+        private void multiplyWide(int[] a, int[] b, int degree) {
             Arrays.fill(wide, 0);
             long limit = prime * prime;
-            int top = degree(b);
             for (int i = 0; i < SIZE; i++) {
                 long factor = a[i];
-                for (int j = 0; factor != 0 && j <= top; j++) {
+                for (int j = 0; factor != 0 && j <= degree; j++) {
                     long sum = wide[i + j] + factor * b[j];
                     wide[i + j] = sum >= limit ? sum - limit : sum;
                 }
@@ -589,7 +587,7 @@ public final class ResidueRows {
             int[] part = parts[i];
             int fullDegree = degree(part);
             derive(part, image);
-            // A derivative 0 tells that the part is a prime-th power; the prime is 2 at least, so 31 allows it 4 times.
+            // A derivative 0 tells that the part is a prime-th power; below degree 32 that happens 4 times at most.
             for (int step = 0; step < SIZE && degree(image) < 0; step++) {
                 takePrimeRoot(part);
                 derive(part, image);
