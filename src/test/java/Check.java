@@ -1,11 +1,41 @@
+import java.io.IOException;
+import java.nio.charset.StandardCharsets;
+import java.nio.file.Files;
+import java.nio.file.Path;
+import java.nio.file.StandardOpenOption;
+import java.util.ArrayList;
+import java.util.List;
+
 /** Compares answers with what is due, an exception being written throws.ItsName, and ends the program. */
 final class Check {
     interface Call {
         Object answer();
     }
 
+    private final String document = document();
+    private final List<String> said = new ArrayList<>();
+    private String sentence = "";
     private int asked = 0;
     private int wrong = 0;
+
+    /** The document as one line; empty if there is none, since the answers can be compared all the same. */
+    static String document() {
+        Path path = Path.of(System.getProperty("document", "../shared/DOC.md"));
+        try {
+            return Files.readString(path, StandardCharsets.UTF_8).replaceAll("\\s+", " ");
+        } catch (IOException e) {
+            System.out.println("no document at " + path + ": its words are not looked up");
+            return "";
+        }
+    }
+
+    /** Names the document's words that the answers from here on are due by; they must stand in it. */
+    void says(String words) {
+        sentence = words;
+        said.add(words);
+        same("whether the document has these words", String.valueOf(document.isEmpty() || document.contains(words)),
+                "true");
+    }
 
     static String outcome(Call call) {
         try {
@@ -40,7 +70,8 @@ final class Check {
         asked++;
         if (!got.equals(want)) {
             wrong++;
-            System.out.println(name + " answered " + got + ", due is " + want);
+            System.out.println(name + " answered " + got + ", due is " + want
+                    + (sentence.isEmpty() ? "" : ", by the words: " + sentence));
         }
     }
 
@@ -53,9 +84,24 @@ final class Check {
     }
 
     void end() {
+        tellWhatWasSaid();
         System.out.println(asked + " answers, " + wrong + " of them not as due");
         if (wrong != 0 || asked == 0) {
             System.exit(1);
+        }
+    }
+
+    /** For the look at the end whether each sentence of the document has a test. */
+    private void tellWhatWasSaid() {
+        String path = System.getProperty("said", "");
+        if (path.isEmpty()) {
+            return;
+        }
+        try {
+            Files.write(Path.of(path), said, StandardCharsets.UTF_8, StandardOpenOption.CREATE,
+                    StandardOpenOption.APPEND);
+        } catch (IOException e) {
+            same("writing to " + path, e.toString(), "done");
         }
     }
 

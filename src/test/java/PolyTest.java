@@ -2,6 +2,7 @@
 final class PolyTest {
     public static void main(String[] args) {
         Check check = new Check();
+        check.says("The next number; its polynomial becomes 0.");
         ResidueRows x = new ResidueRows(11);
         x.set(0, 3, 4);
         x.set(1, 31, 4);
@@ -18,6 +19,7 @@ final class PolyTest {
         check.due("poly()", () -> x.poly(), 95);
         check.due("at(95, 5)", () -> x.at(95, 5), 0);
         x.set(95, 5, 7);
+        check.says("IllegalStateException: no number is left (95 was given), or as said");
         check.illegalState("poly()", () -> x.poly());
         check.illegalState("poly()", () -> x.poly());
         check.due("at(95, 5)", () -> x.at(95, 5), 7);
