@@ -42,8 +42,14 @@ final class Check {
             Object answer = call.answer();
             return String.valueOf(answer);
         } catch (RuntimeException e) {
-            return "throws." + e.getClass().getSimpleName();
+            return (isOfTheMachine(e) ? "the machine throws." : "throws.") + e.getClass().getSimpleName();
         }
+    }
+
+    /** What the machine throws by itself bears a text of its own; the class has to look and throw ahead of it. */
+    private static boolean isOfTheMachine(RuntimeException e) {
+        String text = String.valueOf(e.getMessage());
+        return text.contains("out of bounds for") || text.equals("/ by zero") || text.startsWith("arraycopy:");
     }
 
     void due(String name, Call call, Object want) {

@@ -23,6 +23,7 @@ final class FactorTest {
         nothingFactored();
         belowZeroAndAtTheCount();
         ownRowIsOverwritten();
+        oneAfterAnother();
         wrong();
         check.end();
     }
@@ -383,6 +384,46 @@ final class FactorTest {
         check.due("factor(0, 0)", () -> x.factor(0, 0), 2);
         check.row("factor 0", x, 0, 0, 1);
         check.row("factor 1", x, 1, 4, 1);
+    }
+
+    /** Whatever was factored ahead on the same object, higher and lower ones, leaves no trace. */
+    private static void oneAfterAnother() {
+        check.says("The number of factor k, from 0 on, of the polynomial that was factored latest (the number: the "
+                + "polynomial may be another one by now).");
+        int[] primes = {2, 3, 5, 7, 31, 65537, GREATEST};
+        java.util.Random random = new java.util.Random(9);
+        for (int run = 0; run < 70; run++) {
+            int prime = primes[run % primes.length];
+            ResidueRows used = new ResidueRows(prime);
+            int[] degrees = {31, 5, 12, 3};
+            for (int degree : degrees) {
+                long[] row = new long[degree + 1];
+                for (int k = 0; k <= degree; k++) {
+                    row[k] = random.nextInt(4) - 1;
+                }
+                row[degree] = 1;
+                ResidueRows fresh = new ResidueRows(prime);
+                check.same("factors modulo " + prime + " of " + Arrays.toString(row),
+                        told(used, Check.make(used, row), degree), told(fresh, Check.make(fresh, row), degree));
+            }
+        }
+    }
+
+    /** The factors and how often they divide, with few calls: a factor has no coefficients above the degree left. */
+    private static String told(ResidueRows x, int p, int degree) {
+        StringBuilder all = new StringBuilder();
+        int count = x.factor(p, 0);
+        int left = degree;
+        for (int k = 0; k < count; k++) {
+            int number = x.factorOf(k);
+            int times = Math.max(x.multiplicity(k), 1);
+            all.append(x.multiplicity(k)).append(':');
+            for (int i = 0; i <= left / times; i++) {
+                all.append(x.at(number, i)).append(' ');
+            }
+            left -= times;
+        }
+        return all.toString();
     }
 
     private static void wrong() {

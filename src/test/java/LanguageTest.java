@@ -12,6 +12,9 @@ final class LanguageTest {
         "\\b(Random|System\\.(?!arraycopy\\()\\w+|Thread|File)\\b", "[^\\x00-\\x7f]",
     };
 
+    private static final String THROW = " +throw new (ArrayIndexOutOfBounds|IllegalState|IllegalArgument|Arithmetic)"
+            + "Exception\\(\"[^\"]+\"\\);";
+
     public static void main(String[] args) throws java.io.IOException {
         Check check = new Check();
         Path source = Path.of(System.getProperty("source", "src/main/java/ResidueRows.java"));
@@ -23,6 +26,9 @@ final class LanguageTest {
             for (String never : NEVER) {
                 check.same("line " + (i + 1) + " has " + never,
                         String.valueOf(Pattern.compile(never).matcher(code).find()), "false");
+            }
+            if (code.contains("throw ")) {
+                check.same("line " + (i + 1) + " throws by rule 6: " + code, String.valueOf(code.matches(THROW)), "true");
             }
             if (code.startsWith("import")) {
                 check.same("line " + (i + 1), code, "import java.util.Arrays;");
