@@ -3,14 +3,15 @@ import java.nio.charset.StandardCharsets;
 import java.nio.file.Files;
 import java.nio.file.Path;
 
-/** Looks whether the tests that ran ahead of it named every sentence of "Terms" and of the promises. */
+/** Looks whether the tests that ran ahead of it named every sentence of "What it is", "Terms" and the promises. */
 final class Sentences {
     public static void main(String[] args) throws IOException {
         String text = Check.document();
-        int begin = Math.max(text.indexOf("## Terms"), 0);
+        int begin = Math.max(text.indexOf("## What it is"), 0);
         int end = Math.max(text.indexOf("## Not promised"), begin);
-        // Headings and signatures are no sentences.
-        String words = text.substring(begin, end).replace("## Terms", "")
+        // Headings and signatures are no sentences, and FaceTest compares the face.
+        String words = text.substring(begin, end).replaceAll("## The public face .*## Terms", "")
+                .replace("## What it is", "")
                 .replaceAll("## Promise \\d+: (A new object|\\w+) `[^`]*`:", "");
         boolean[] named = new boolean[words.length()];
         for (String sentence : Files.readAllLines(Path.of(System.getProperty("said")), StandardCharsets.UTF_8)) {
